@@ -50,7 +50,7 @@ public final class PredictiveGrammar {
         failure = new Failure();
         input = new Input();
         parser = new Parser(rules, sets, table, input);
-        examples = new Examples(rules, sets);
+        examples = new Examples(rules);
         repairer = new Repairer(rules, input);
         sets.compute(rules);
         setsBefore.become(sets);
@@ -1062,6 +1062,10 @@ public final class PredictiveGrammar {
             return costs[w] < NO_WORD;
         }
 
+        boolean isEmpty(int w) {
+            return costs[w] == 0;
+        }
+
         int lengthOf(int w) {
             return exists(w) ? costs[w] >> WEIGHT_BITS : NONE;
         }
@@ -1169,20 +1173,20 @@ public final class PredictiveGrammar {
         private static final int ENDED = 2 * SYMBOLS;
         private static final int MET = 3 * SYMBOLS;
         private static final int HEAD = 4 * SYMBOLS;
-        private static final int REST = HEAD + 1;
-        private static final int TRIAL = HEAD + 2;
-        private static final int SIZE = HEAD + 3;
+        private static final int TRIAL = HEAD + 1;
+        /** For each production and position, the PLAIN and the STARTING word of the symbols from there on. */
+        private static final int PLAIN_TAILS = HEAD + 2;
+        private static final int STARTING_TAILS = PLAIN_TAILS + MOST_PRODUCTIONS * (MOST_RIGHT + 1);
+        private static final int SIZE = STARTING_TAILS + MOST_PRODUCTIONS * (MOST_RIGHT + 1);
         private static final int NO_KEY = -1;
 
         private final Rules rules;
-        private final Sets sets;
         final Words words = new Words(SIZE);
         private boolean plainKnown;
         private int exampleKey = NO_KEY;
 
-        Examples(Rules rules, Sets sets) {
+        Examples(Rules rules) {
             this.rules = rules;
-            this.sets = sets;
         }
 
         void forget() {
@@ -1201,10 +1205,22 @@ public final class PredictiveGrammar {
             if (rules.has(p) && key != exampleKey) {
                 findPlain();
                 findStarting(token);
-                findMarked(rules.codes[p]);
+                findMarked(p);
                 exampleKey = key;
             }
             return (token == END ? ENDED : MET) + FIRST_NONTERMINAL + START;
+        }
+
+        private static int plainTail(int p, int i) {
+            return PLAIN_TAILS + p * (MOST_RIGHT + 1) + i;
+        }
+
+        private static int startingTail(int p, int i) {
+            return STARTING_TAILS + p * (MOST_RIGHT + 1) + i;
+        }
+
+        private int leftSymbol(int p) {
+            return FIRST_NONTERMINAL + Rules.leftOf(rules.codes[p]);
         }
 
         private void forgetKind(int kind) {
@@ -1213,6 +1229,7 @@ public final class PredictiveGrammar {
             }
         }
 
+        /** The last round changes no word, so it leaves the tails that belong to the words. */
         private void findPlain() {
             if (plainKnown) {
                 return;
@@ -1225,28 +1242,49 @@ public final class PredictiveGrammar {
             for (int round = 0; round < ROUNDS && changed; round++) {
                 changed = false;
                 for (int p = 0; p < rules.count; p++) {
-                    int code = rules.codes[p];
-                    words.putEmpty(TRIAL);
-                    appendPlain(TRIAL, code, 0);
-                    changed = words.lower(PLAIN + FIRST_NONTERMINAL + Rules.leftOf(code), TRIAL) || changed;
+                    putPlainTails(p);
+                    changed = words.lower(PLAIN + leftSymbol(p), plainTail(p, 0)) || changed;
                 }
             }
             plainKnown = true;
         }
 
+        private void putPlainTails(int p) {
+            int code = rules.codes[p];
+            int length = Rules.lengthOf(code);
+            words.putEmpty(plainTail(p, length));
+            for (int i = length - 1; i >= 0; i--) {
+                words.putCopy(plainTail(p, i), PLAIN + Rules.symbolOf(code, i));
+                words.append(plainTail(p, i), plainTail(p, i + 1));
+            }
+        }
+
+        /** As findPlain; no word starts with the end marker. */
         private void findStarting(int token) {
             forgetKind(STARTING);
-            if (token == END) {
-                return;
+            if (token != END) {
+                words.putTerminal(STARTING + token, token, 0);
             }
-            words.putTerminal(STARTING + token, token, 0);
             boolean changed = true;
             for (int round = 0; round < ROUNDS && changed; round++) {
                 changed = false;
                 for (int p = 0; p < rules.count; p++) {
-                    int code = rules.codes[p];
-                    putStarting(REST, code, 0);
-                    changed = words.lower(STARTING + FIRST_NONTERMINAL + Rules.leftOf(code), REST) || changed;
+                    putStartingTails(p);
+                    changed = words.lower(STARTING + leftSymbol(p), startingTail(p, 0)) || changed;
+                }
+            }
+        }
+
+        private void putStartingTails(int p) {
+            int code = rules.codes[p];
+            int length = Rules.lengthOf(code);
+            words.putNone(startingTail(p, length));
+            for (int i = length - 1; i >= 0; i--) {
+                int symbol = Rules.symbolOf(code, i);
+                words.putCopy(startingTail(p, i), STARTING + symbol);
+                words.append(startingTail(p, i), plainTail(p, i + 1));
+                if (words.isEmpty(PLAIN + symbol)) {
+                    words.lower(startingTail(p, i), startingTail(p, i + 1));
                 }
             }
         }
@@ -1254,77 +1292,49 @@ public final class PredictiveGrammar {
         private void findMarked(int marked) {
             forgetKind(ENDED);
             forgetKind(MET);
-            int left = FIRST_NONTERMINAL + Rules.leftOf(marked);
-            if (sets.vanishes(marked, 0)) {
-                words.putEmpty(ENDED + left);
+            if (words.isEmpty(plainTail(marked, 0))) {
+                words.putEmpty(ENDED + leftSymbol(marked));
             }
-            putStarting(MET + left, marked, 0);
+            words.putCopy(MET + leftSymbol(marked), startingTail(marked, 0));
             boolean changed = true;
             for (int round = 0; round < ROUNDS && changed; round++) {
                 changed = false;
                 for (int p = 0; p < rules.count; p++) {
-                    changed = lowerMarked(rules.codes[p]) || changed;
+                    changed = lowerMarked(p) || changed;
                 }
             }
         }
 
-        private boolean lowerMarked(int code) {
+        private boolean lowerMarked(int p) {
             boolean changed = false;
-            int left = FIRST_NONTERMINAL + Rules.leftOf(code);
+            int code = rules.codes[p];
             words.putEmpty(HEAD);
             for (int i = 0; i < Rules.lengthOf(code); i++) {
                 int symbol = Rules.symbolOf(code, i);
                 if (words.exists(MET + symbol)) {
-                    putHeadAnd(MET + symbol);
-                    appendPlain(TRIAL, code, i + 1);
-                    changed = words.lower(MET + left, TRIAL) || changed;
+                    words.putCopy(TRIAL, HEAD);
+                    words.append(TRIAL, MET + symbol);
+                    words.append(TRIAL, plainTail(p, i + 1));
+                    changed = words.lower(MET + leftSymbol(p), TRIAL) || changed;
                 }
                 if (words.exists(ENDED + symbol)) {
-                    changed = lowerEnded(code, i) || changed;
+                    changed = lowerEnded(p, i) || changed;
                 }
                 words.append(HEAD, PLAIN + symbol);
             }
             return changed;
         }
 
-        /** The place of the marked production is at the end of symbol i: what comes behind decides. */
-        private boolean lowerEnded(int code, int i) {
+        /** The production is used at the end of symbol i of p: what comes behind that decides. */
+        private boolean lowerEnded(int p, int i) {
             boolean changed = false;
-            int left = FIRST_NONTERMINAL + Rules.leftOf(code);
-            int symbol = Rules.symbolOf(code, i);
-            if (sets.vanishes(code, i + 1)) {
-                putHeadAnd(ENDED + symbol);
-                changed = words.lower(ENDED + left, TRIAL);
-            }
-            putStarting(REST, code, i + 1);
-            putHeadAnd(ENDED + symbol);
-            words.append(TRIAL, REST);
-            return words.lower(MET + left, TRIAL) || changed;
-        }
-
-        private void putHeadAnd(int w) {
             words.putCopy(TRIAL, HEAD);
-            words.append(TRIAL, w);
-        }
-
-        private void appendPlain(int w, int code, int from) {
-            for (int i = from; i < Rules.lengthOf(code); i++) {
-                words.append(w, PLAIN + Rules.symbolOf(code, i));
+            words.append(TRIAL, ENDED + Rules.symbolOf(rules.codes[p], i));
+            if (words.isEmpty(plainTail(p, i + 1))) {
+                changed = words.lower(ENDED + leftSymbol(p), TRIAL);
             }
-        }
-
-        /** Puts the least word of the right side from there on that starts with the token. */
-        private void putStarting(int w, int code, int from) {
-            words.putNone(w);
-            for (int i = from; i < Rules.lengthOf(code); i++) {
-                int symbol = Rules.symbolOf(code, i);
-                words.putCopy(TRIAL, STARTING + symbol);
-                appendPlain(TRIAL, code, i + 1);
-                words.lower(w, TRIAL);
-                if (!sets.isNullable(symbol)) {
-                    return;
-                }
-            }
+            words.append(TRIAL, startingTail(p, i + 1));
+            return words.lower(MET + leftSymbol(p), TRIAL) || changed;
         }
     }
 
