@@ -1413,17 +1413,19 @@ public final class PredictiveGrammar {
                 words.putNone(COVER + place);
             }
             words.putEmpty(COVER + from);
-            for (int i = 0; i < Rules.lengthOf(code); i++) {
-                extendCover(Rules.symbolOf(code, i), from, to);
+            int last = Rules.lengthOf(code) - 1;
+            for (int i = 0; i <= last; i++) {
+                // before the first symbol nothing is covered, and after the last one only the whole counts
+                extendCover(Rules.symbolOf(code, i), from, i == 0 ? from : to, i == last ? to : from, to);
             }
             return words.lower(wordOf(from, to, FIRST_NONTERMINAL + Rules.leftOf(code)), COVER + to);
         }
 
         /** From the end on, as each place needs the words that the places up to it had. */
-        private void extendCover(int symbol, int from, int to) {
-            for (int end = to; end >= from; end--) {
+        private void extendCover(int symbol, int from, int lastMiddle, int firstEnd, int to) {
+            for (int end = to; end >= firstEnd; end--) {
                 words.putNone(BEST);
-                for (int middle = from; middle <= end; middle++) {
+                for (int middle = from; middle <= end && middle <= lastMiddle; middle++) {
                     words.lowerToJoined(BEST, COVER + middle, wordOf(middle, end, symbol));
                 }
                 words.putCopy(COVER + end, BEST);
