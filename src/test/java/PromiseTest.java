@@ -304,6 +304,14 @@ public final class PromiseTest {
         Due.due("its undo", x.changedNonterminals(), 0);
         x.undo();
         Due.due("undo of the empty one", x.changedNonterminals(), 2);
+        x.undo();
+        Due.due("undo of first of 0 and 1", x.changedNonterminals(), 2);
+        x.undo();
+        Due.due("undo of follow of 1", x.changedNonterminals(), 1);
+        x.undo();
+        Due.due("an undo that failed", x.changedNonterminals(), 1);
+        add(x, 0, 11, 2);
+        add(x, 1, 0);
         x.removeProduction(9);
         Due.due("a call that answers BAD", x.changedNonterminals(), 2);
         x.clear();
@@ -351,6 +359,26 @@ public final class PromiseTest {
             Due.due("reachable(" + n + ") in the circle", x.reachable(n), 1);
             Due.due("productive(" + n + ") in the circle", x.productive(n), 0);
         }
+        x.clear();
+        for (int n = 0; n < 8; n++) {
+            Due.due("leftRecursive(" + n + ") of nothing", x.leftRecursive(n), 0);
+            Due.due("reachable(" + n + ") of nothing", x.reachable(n), n == 0 ? 1 : 0);
+        }
+        // chains whose productions stand against and along the order
+        for (int n = 7; n > 0; n--) {
+            add(x, n - 1, 1, 10 + n);
+        }
+        Due.due("reachable(7) at the end of the chain", x.reachable(7), 1);
+        Due.due("productive(0) before the chain has an end", x.productive(0), 0);
+        add(x, 7);
+        Due.due("productive(0) of the chain", x.productive(0), 1);
+        x.clear();
+        add(x, 0, 11);
+        add(x, 1, 12);
+        add(x, 2, 13);
+        add(x, 3);
+        Due.due("productive(0) along the order", x.productive(0), 1);
+        Due.due("nullable(0) along the order", x.nullable(0), 1);
         // productive also if the shortest string is too long to exist
         x.clear();
         for (int n = 0; n < 3; n++) {
@@ -514,6 +542,25 @@ public final class PromiseTest {
         Due.due("the token is the end marker", y.conflict(0, 1), 8);
         dueWord("its example", k -> y.exampleTerminal(0, 0, k), "3");
         dueWord("its other example", k -> y.exampleTerminal(0, 1, k), "3");
+        // the nonterminal around the place is not nullable itself
+        PredictiveGrammar v = new PredictiveGrammar();
+        add(v, 0, 11);
+        add(v, 1, 3, 12);
+        add(v, 2, 13);
+        add(v, 2);
+        add(v, 3);
+        dueWord("at the end marker", k -> v.exampleTerminal(0, 0, k), "3");
+        dueWord("at the end marker", k -> v.exampleTerminal(0, 1, k), "3");
+        // at the end of five symbols nothing comes behind, whatever the next production is
+        PredictiveGrammar w = new PredictiveGrammar();
+        add(w, 0, 6, 6, 6, 6, 11);
+        add(w, 0, 5, 5, 5, 5, 5);
+        add(w, 0, 7, 10, 5, 7, 7);
+        add(w, 1, 5);
+        add(w, 1);
+        Due.due("the token is t5", w.conflict(0, 1), 5);
+        dueWord("t5 in it", k -> w.exampleTerminal(0, 0, k), "66665");
+        dueWord("t5 behind it", k -> w.exampleTerminal(0, 1, k), "76666577");
         // nonterminals that cannot be reached or do not derive a string have no examples
         PredictiveGrammar z = new PredictiveGrammar();
         add(z, 0, 0);
@@ -607,6 +654,16 @@ public final class PromiseTest {
         dueProduction(x, 0, 0, 1, 15);
         Due.due("then nothing", x.leftFactor(0), NONE);
         dueReport(x);
+        // productions that are removed do not come back
+        x.clear();
+        add(x, 0, 1, 2);
+        add(x, 0, 1, 3);
+        add(x, 0, 1, 4);
+        x.removeProduction(2);
+        Due.due("leftFactor(0)", x.leftFactor(0), 1);
+        Due.due("productionCount()", x.productionCount(), 3);
+        Due.due("selectSet(0)", x.selectSet(0), 2);
+        Due.due("firstSet(1)", x.firstSet(1), 12);
         // a prefix of four symbols, of a nonterminal that is lower than the unused ones
         x.clear();
         add(x, 1, 0, 0, 0, 0, 0);
@@ -721,6 +778,28 @@ public final class PromiseTest {
         x.removeProduction(23);
         Due.due("one less", x.removeLeftRecursion(1), 7);
         Due.due("productionCount()", x.productionCount(), 24);
+        x = new PredictiveGrammar();
+        add(x, 1, 2, 2, 2, 2, 2);
+        add(x, 1, 11, 1);
+        Due.due("production 0 has five symbols", x.removeLeftRecursion(1), FAILED);
+        dueReport(x, 15, 1, 20, 0);
+        x = new PredictiveGrammar();
+        add(x, 1, 11);
+        add(x, 1, 1);
+        Due.due("production 0 is n alone", x.removeLeftRecursion(1), FAILED);
+        dueReport(x, 15, 1, 18, 0);
+        // productions that are removed do not come back
+        x = new PredictiveGrammar();
+        add(x, 0, 2);
+        add(x, 0, 10, 3);
+        add(x, 0, 10, 4);
+        x.removeProduction(2);
+        Due.due("removeLeftRecursion(0)", x.removeLeftRecursion(0), 1);
+        Due.due("productionCount()", x.productionCount(), 3);
+        dueProduction(x, 1, 1, 3, 11);
+        dueProduction(x, 2, 1);
+        Due.due("conflictCount()", x.conflictCount(), 0);
+        Due.due("followSet(1)", x.followSet(1), 256);
         x = new PredictiveGrammar();
         add(x, 1, 11, 1);
         add(x, 1, 2, 2, 2, 2, 2);
