@@ -408,38 +408,39 @@ public final class PredictiveGrammar {
 
     /** Both ways of rewriting leave one production more than there was. */
     private boolean leavesNoRoom(int n, int fresh) {
-        if (fresh >= 0 && rules.count < MOST_PRODUCTIONS) {
-            return false;
-        }
-        failure.begin(Failure.NOT_REWRITTEN, n);
         if (fresh < 0) {
-            failure.because(Failure.NO_NONTERMINAL, 0);
-        } else {
-            failure.because(Failure.TOO_MANY_PRODUCTIONS, rules.count + 1);
+            reportRewriting(n, Failure.NO_NONTERMINAL, 0);
+            return true;
         }
-        return true;
+        if (rules.count >= MOST_PRODUCTIONS) {
+            reportRewriting(n, Failure.TOO_MANY_PRODUCTIONS, rules.count + 1);
+            return true;
+        }
+        return false;
     }
 
     private boolean hindersRemoval(int n) {
         int alone = rules.find(Rules.extended(Rules.emptyOf(n), FIRST_NONTERMINAL + n));
         if (alone >= 0) {
-            failure.begin(Failure.NOT_REWRITTEN, n);
-            failure.because(Failure.RECURSIVE_ALONE, alone);
+            reportRewriting(n, Failure.RECURSIVE_ALONE, alone);
             return true;
         }
         int own = rules.productionsOf(n);
         if (rules.recursiveOf(n) == own) {
-            failure.begin(Failure.NOT_REWRITTEN, n);
-            failure.because(Failure.ALL_RECURSIVE, own);
+            reportRewriting(n, Failure.ALL_RECURSIVE, own);
             return true;
         }
-        int longest = rules.lowestFilledOther(n);
-        if (longest >= 0) {
-            failure.begin(Failure.NOT_REWRITTEN, n);
-            failure.because(Failure.RIGHT_SIDE_FILLED, longest);
+        int filled = rules.lowestFilledOther(n);
+        if (filled >= 0) {
+            reportRewriting(n, Failure.RIGHT_SIDE_FILLED, filled);
             return true;
         }
         return false;
+    }
+
+    private void reportRewriting(int n, int code, int detail) {
+        failure.begin(Failure.NOT_REWRITTEN, n);
+        failure.because(code, detail);
     }
 
     // ---------------------------------------------------------------- the productions

@@ -554,7 +554,7 @@ public final class PromiseTest {
         // at the end of five symbols nothing comes behind, whatever the next production is
         PredictiveGrammar w = new PredictiveGrammar();
         add(w, 0, 6, 6, 6, 6, 11);
-        add(w, 0, 5, 5, 5, 5, 5);
+        add(w, 0, 5);
         add(w, 0, 7, 10, 5, 7, 7);
         add(w, 1, 5);
         add(w, 1);
