@@ -1122,7 +1122,7 @@ public final class PredictiveGrammar {
         void append(int w, int tail) {
             int cost = costs[w] + costs[tail];
             if (cost >= NO_WORD) {
-                putNone(w);
+                put(w, NO_WORD, 0, 0);
             } else {
                 put(w, cost, joinedHigh(w, tail), joinedLow(w, tail));
             }
@@ -1133,7 +1133,7 @@ public final class PredictiveGrammar {
             if (!isLess(w, costs[other], highs[other], lows[other])) {
                 return false;
             }
-            putCopy(w, other);
+            put(w, costs[other], highs[other], lows[other]);
             return true;
         }
 

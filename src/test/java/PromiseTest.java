@@ -1,8 +1,5 @@
 /** Each promise of the document by its number: ordinary inputs, the edges that it names, and wrong inputs. */
-public final class PromiseTest {
-    private static final int BAD = -1, NONE = -2, FULL = -3, DUPLICATE = -4, FAILED = -5, LIMIT = -6;
-    private static final int[] WRONG = {-1, 8, 9, 10, 17, -2, Integer.MIN_VALUE, Integer.MAX_VALUE};
-
+public final class PromiseTest extends Calls {
     public static void main(String[] args) {
         newObject();
         addProduction();
@@ -34,57 +31,6 @@ public final class PromiseTest {
         repair();
         failureReport();
         Due.end();
-    }
-
-    /** Adds a production and returns what addProduction answers; what is not given is -1. */
-    private static int add(PredictiveGrammar x, int left, int... right) {
-        int[] s = {-1, -1, -1, -1, -1};
-        System.arraycopy(right, 0, s, 0, right.length);
-        return x.addProduction(left, s[0], s[1], s[2], s[3], s[4]);
-    }
-
-    private static void dueProduction(PredictiveGrammar x, int p, int left, int... right) {
-        Due.due("leftSide(" + p + ")", x.leftSide(p), left);
-        Due.due("rightLength(" + p + ")", x.rightLength(p), right.length);
-        for (int i = 0; i < right.length; i++) {
-            Due.due("rightSymbol(" + p + ", " + i + ")", x.rightSymbol(p, i), right[i]);
-        }
-        Due.due("rightSymbol at the end", x.rightSymbol(p, right.length), BAD);
-    }
-
-    private static void dueReport(PredictiveGrammar x, int... codesAndDetails) {
-        int levels = codesAndDetails.length / 2;
-        Due.due("failureLevels()", x.failureLevels(), levels);
-        for (int level = 0; level < levels; level++) {
-            Due.due("failureCode(" + level + ")", x.failureCode(level), codesAndDetails[2 * level]);
-            Due.due("failureDetail(" + level + ")", x.failureDetail(level), codesAndDetails[2 * level + 1]);
-        }
-        for (int level : new int[] {-1, levels, Integer.MIN_VALUE, Integer.MAX_VALUE}) {
-            Due.due("failureCode(" + level + ")", x.failureCode(level), NONE);
-            Due.due("failureDetail(" + level + ")", x.failureDetail(level), NONE);
-        }
-    }
-
-    private interface Word {
-        int terminal(int k);
-    }
-
-    private static void dueWord(String what, Word word, String want) {
-        for (int k = 0; k < want.length(); k++) {
-            Due.due(what + " at " + k, word.terminal(k), want.charAt(k) - '0');
-        }
-        for (int k : new int[] {want.length(), -1, 40, 41, Integer.MIN_VALUE, Integer.MAX_VALUE}) {
-            Due.due(what + " at " + k, word.terminal(k), NONE);
-        }
-    }
-
-    /** 24 productions: three terminals in a row, all of one left side. */
-    private static PredictiveGrammar fullGrammar(int left) {
-        PredictiveGrammar x = new PredictiveGrammar();
-        for (int i = 0; i < 24; i++) {
-            Due.due("production " + i, add(x, left, i % 8, i / 8), i);
-        }
-        return x;
     }
 
     private static void newObject() {
@@ -388,20 +334,6 @@ public final class PromiseTest {
         Due.due("productive(0) of 64 terminals", x.productive(0), 1);
         Due.due("shortestLength(0) of 64 terminals", x.shortestLength(0), NONE);
         Due.due("shortestLength(1) of 16 terminals", x.shortestLength(1), 16);
-    }
-
-    /** 0 derives one string: five times eight terminals, and more of them as given. */
-    private static PredictiveGrammar fortyGrammar(int... more) {
-        PredictiveGrammar x = new PredictiveGrammar();
-        add(x, 0, 11, 11, 11, 11, 12);
-        add(x, 1, 13, 13);
-        add(x, 2, 14, 15);
-        add(x, 3, 0, 1, 2, 3);
-        add(x, 4, 4, 5, 6, 7);
-        int[] last = {7, 6, 5, 4, 0};
-        System.arraycopy(more, 0, last, 4, more.length);
-        add(x, 5, java.util.Arrays.copyOf(last, 4 + more.length));
-        return x;
     }
 
     private static void shortest() {
@@ -1009,17 +941,6 @@ public final class PromiseTest {
         lastStep();
     }
 
-    /** Each t0 leaves three symbols more on the stack; after 19 of them there are 58, and t2 puts the last ones. */
-    private static PredictiveGrammar stackGrammar(int... last) {
-        PredictiveGrammar x = new PredictiveGrammar();
-        add(x, 0, 0, 10, 1, 1, 1);
-        add(x, 0, last);
-        x.appendInput(111111111);
-        x.appendInput(1111111111);
-        x.appendInput(333);
-        return x;
-    }
-
     private static void sixtySymbols() {
         Due.part("promises 33 and 34, 60 symbols");
         PredictiveGrammar x = stackGrammar(2, 2, 2);
@@ -1034,27 +955,6 @@ public final class PromiseTest {
         Due.due("61 symbols are not recovered from", x.recover(), LIMIT);
         Due.due("error(0, 0)", x.error(0, 0), NONE);
         Due.due("traceLength()", x.traceLength(), 20);
-    }
-
-    /**
-     * Each of 38 t0 takes 7 steps, t1 then 2, and 3 behind it vanishes in 31: that makes 299, and one more
-     * for each 2 that stands behind. As 6 tells, all that vanishes may do so before t7, too.
-     */
-    private static PredictiveGrammar stepsGrammar(int... last) {
-        PredictiveGrammar x = new PredictiveGrammar();
-        add(x, 0, 0, 11, 10);
-        add(x, 0, last);
-        add(x, 1, 12, 12, 12, 12);
-        add(x, 2);
-        add(x, 3, 14, 14, 14, 14, 14);
-        add(x, 4, 15, 15, 15, 15, 15);
-        add(x, 5);
-        add(x, 6, 13, 12, 7);
-        for (int i = 0; i < 38; i++) {
-            x.appendInput(1);
-        }
-        x.appendInput(2);
-        return x;
     }
 
     /** To accept and to fail after exactly 300 steps is no step more. */
@@ -1136,12 +1036,6 @@ public final class PromiseTest {
         for (int wrong : new int[] {-1, 2, 300, Integer.MIN_VALUE, Integer.MAX_VALUE}) {
             Due.due("error(" + wrong + ", 0)", x.error(wrong, 0), NONE);
         }
-    }
-
-    private static void dueError(PredictiveGrammar x, int i, int index, int kind, int top) {
-        Due.due("error(" + i + ", 0)", x.error(i, 0), index);
-        Due.due("error(" + i + ", 1)", x.error(i, 1), kind);
-        Due.due("error(" + i + ", 2)", x.error(i, 2), top);
     }
 
     private static void recoverLimit() {

@@ -25,6 +25,10 @@ final class Due {
         due(call, holds ? 1 : 0, 1);
     }
 
+    static int answers() {
+        return answers;
+    }
+
     static void end() {
         System.out.println(wrong == 0 ? answers + " answers are as due" : wrong + " of " + answers + " answers are not as due");
         if (wrong != 0) {
