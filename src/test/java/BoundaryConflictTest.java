@@ -152,6 +152,18 @@ public final class BoundaryConflictTest extends Calls {
         dueExample(x, 1, 0, "");
         dueExample(x, 0, 0, "0");
         dueExample(x, 0, 1, "05");
+        x = new PredictiveGrammar();
+        add(x, 0);
+        add(x, 0, 11, 12);
+        add(x, 1);
+        add(x, 1, 13);
+        add(x, 2);
+        add(x, 3);
+        Due.due("conflictCount()", x.conflictCount(), 2);
+        for (int i = 1; i >= 0; i--) {
+            dueExample(x, i, 0, "");
+            dueExample(x, i, 1, "");
+        }
         // one production derives a string, the other does not
         x = new PredictiveGrammar();
         add(x, 0, 4, 11);

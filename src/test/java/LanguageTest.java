@@ -1,15 +1,23 @@
+import java.io.PrintWriter;
+import java.io.StringWriter;
 import java.lang.reflect.Constructor;
 import java.lang.reflect.Field;
 import java.lang.reflect.Method;
 import java.lang.reflect.Modifier;
+import java.nio.file.DirectoryStream;
 import java.nio.file.Files;
 import java.nio.file.Path;
+import java.util.ArrayList;
 import java.util.Arrays;
 import java.util.List;
+import java.util.Map;
+import java.util.Optional;
 import java.util.Set;
+import java.util.TreeMap;
 import java.util.TreeSet;
 import java.util.regex.Matcher;
 import java.util.regex.Pattern;
+import java.util.spi.ToolProvider;
 
 /** The face of the class, the rules of the language that can be told from the text, and what calls allocate. */
 public final class LanguageTest {
@@ -27,6 +35,7 @@ public final class LanguageTest {
         face();
         names();
         text();
+        callDepth();
         allocation();
         Due.end();
     }
@@ -122,6 +131,63 @@ public final class LanguageTest {
                 start = -1;
             }
         }
+    }
+
+    /** The calls are read from the compiled classes, as the text does not tell whose method is called. */
+    private static void callDepth() throws Exception {
+        Due.part("the depth of calls");
+        Path classes = Path.of(PredictiveGrammar.class.getProtectionDomain().getCodeSource().getLocation().toURI());
+        List<String> arguments = new ArrayList<>(List.of("-c", "-p"));
+        try (DirectoryStream<Path> files = Files.newDirectoryStream(classes, "PredictiveGrammar*.class")) {
+            files.forEach(file -> arguments.add(file.toString()));
+        }
+        Optional<ToolProvider> javap = ToolProvider.findFirst("javap");
+        if (javap.isEmpty()) {
+            System.out.println("no javap here: the depth of calls is not looked at");
+            return;
+        }
+        StringWriter listing = new StringWriter();
+        PrintWriter out = new PrintWriter(listing);
+        javap.get().run(out, out, arguments.toArray(String[]::new));
+        Map<String, Set<String>> calls = calls(listing.toString());
+        Due.due("methods " + calls.size(), calls.size() > 150);
+        for (String method : calls.keySet()) {
+            Due.due(method + " goes " + depth(method, calls, 0) + " deep", depth(method, calls, 0) <= 8);
+        }
+    }
+
+    /** For each method of the program, those that it calls; methods of one name are taken as one. */
+    private static Map<String, Set<String>> calls(String listing) {
+        Pattern type = Pattern.compile("^(?:\\w+ )*class (\\S+)");
+        Pattern method = Pattern.compile("^  \\w.*?([\\w$]+)\\(.*\\);$");
+        Pattern call = Pattern.compile("invoke\\w+ .*// Method (?:(PredictiveGrammar[\\w$]*)\\.)?\"?([\\w<>]+)\"?:");
+        Map<String, Set<String>> calls = new TreeMap<>();
+        String owner = "";
+        String caller = "";
+        for (String line : listing.split("\n")) {
+            Matcher found = type.matcher(line);
+            if (found.find()) {
+                owner = found.group(1);
+            }
+            found = method.matcher(line);
+            if (found.find()) {
+                caller = owner + "." + (found.group(1).equals(owner) ? "<init>" : found.group(1));
+                calls.putIfAbsent(caller, new TreeSet<>());
+            }
+            found = call.matcher(line);
+            if (found.find() && !line.contains("Method java/")) {
+                calls.get(caller).add((found.group(1) == null ? owner : found.group(1)) + "." + found.group(2));
+            }
+        }
+        return calls;
+    }
+
+    private static int depth(String method, Map<String, Set<String>> calls, int above) {
+        int deepest = 0;
+        for (String called : calls.getOrDefault(method, Set.of())) {
+            deepest = above > 20 ? 20 : Math.max(deepest, depth(called, calls, above + 1));
+        }
+        return 1 + deepest;
     }
 
     private static int indent(String line) {
